@@ -1,6 +1,7 @@
 /**
  * A town where on market days each keeps quiet for a partner, who may then say as much as two.
- * The promises that are named by number here stand in the project's document.
+ * The face only looks at what it is given and hands out refusals, the first named in the document
+ * first; the classes inside are called with what has been found right, and answer.
  */
 public final class HeldTongues {
     public static final int BAD = -1, FULL = -2, NONE = -3;
@@ -34,6 +35,7 @@ public final class HeldTongues {
     private static final int FIRST_ROW_SORT = 10;
     private static final int MISSING = -1;
     private static final int ALONE = -1;
+    private static final int NOBODY = -1;
 
     private final Town now = new Town();
     private final Town kept = new Town();
@@ -45,12 +47,14 @@ public final class HeldTongues {
     private final DayRows dayRows = new DayRows(now, tried);
     private final Deed deed = new Deed();
     private final SheetRow[] sheets = new SheetRow[SHEETS];
-    private final Shelf[] shelves = new Shelf[SHELVES];
+    // A shelf holds a person by its number alone, but a row itself, whatever its sheet becomes.
+    private final int[] shelvedPerson = new int[SHELVES];
+    private final SheetRow[] shelvedRow = new SheetRow[SHELVES];
     private boolean anythingKept;
 
     public HeldTongues() {
         for (int i = 0; i < SHELVES; i++) {
-            shelves[i] = new Shelf();
+            shelvedPerson[i] = NOBODY;
         }
     }
 
@@ -401,15 +405,15 @@ public final class HeldTongues {
             return BAD;
         }
         if (what == 0 && now.has(n)) {
-            shelves[shelf].hold(n, null);
+            placeOnShelf(shelf, n, null);
             return 1;
         }
         if (what == 1 && isSheet(n)) {
-            shelves[shelf].hold(Shelf.NOBODY, sheets[n]);
+            placeOnShelf(shelf, NOBODY, sheets[n]);
             return 1;
         }
         if (what == 2) {
-            shelves[shelf].hold(Shelf.NOBODY, null);
+            placeOnShelf(shelf, NOBODY, null);
             return 1;
         }
         return BAD;
@@ -417,14 +421,14 @@ public final class HeldTongues {
 
     public int taken(int shelf, int as) {
         boolean asRow = within(as, FIRST_ROW_SORT, FIRST_ROW_SORT + SORTS - 1);
-        if (!isShelf(shelf) || !isKind(as) && !asRow) {
+        if (!isShelf(shelf) || !(isKind(as) || asRow)) {
             return BAD;
         }
-        SheetRow held = shelves[shelf].row;
+        SheetRow held = shelvedRow[shelf];
         if (held != null) {
             return held.sort == as - FIRST_ROW_SORT ? held.items.length : ANOTHER_SORT;
         }
-        int person = shelves[shelf].person;
+        int person = shelvedPerson[shelf];
         if (!now.has(person)) {
             return NOTHING_THERE;
         }
@@ -436,7 +440,7 @@ public final class HeldTongues {
         if (!isShelf(shelf) || !within(act, 0, 3)) {
             return 0;
         }
-        int person = shelves[shelf].person;
+        int person = shelvedPerson[shelf];
         if (!now.has(person)) {
             return 0;
         }
@@ -475,6 +479,11 @@ public final class HeldTongues {
         return now.count;
     }
 
+    private void placeOnShelf(int shelf, int person, SheetRow row) {
+        shelvedPerson[shelf] = person;
+        shelvedRow[shelf] = row;
+    }
+
     private static boolean within(int v, int least, int most) {
         return v >= least && v <= most;
     }
@@ -507,7 +516,7 @@ public final class HeldTongues {
         if (as == CITIZEN || as == kind) {
             return true;
         }
-        return as == WIFE && kind == HAWKER || as == MONK && kind == PRIOR;
+        return (as == WIFE && kind == HAWKER) || (as == MONK && kind == PRIOR);
     }
 
     private static long power(long base, int times) {
@@ -849,7 +858,8 @@ public final class HeldTongues {
         }
 
         int loudestPartner(int person, int n) {
-            int most = soundBy(n);
+            tried.copyFrom(now);
+            int most = tried.pass(n);
             int found = NONE;
             for (int other = 0; other < now.count; other++) {
                 if (other != person) {
@@ -958,7 +968,8 @@ public final class HeldTongues {
         void weigh(int n) {
             for (int one = 0; one < now.count; one++) {
                 for (int other = one; other < now.count; other++) {
-                    sounds[one * MOST_PEOPLE + other] = soundOfPair(one, other, n);
+                    takeOnly(one, other);
+                    sounds[one * MOST_PEOPLE + other] = few.pass(n);
                 }
             }
             mostOfSet[0] = 0;
@@ -968,7 +979,7 @@ public final class HeldTongues {
             }
         }
 
-        private int soundOfPair(int one, int other, int n) {
+        private void takeOnly(int one, int other) {
             few.copyLawsAndDay(now);
             few.count = 0;
             few.add(now.kind[one], now.need[one], now.saved[one], now.voice[one]);
@@ -976,7 +987,6 @@ public final class HeldTongues {
                 few.add(now.kind[other], now.need[other], now.saved[other], now.voice[other]);
                 few.join(0, 1);
             }
-            return few.pass(n);
         }
 
         private int everyone() {
@@ -1321,23 +1331,6 @@ public final class HeldTongues {
                 case 1: return (short) v;
                 default: return v;
             }
-        }
-    }
-
-    /** A row is held itself, whatever its sheet becomes later; a person only by its number. */
-    private static final class Shelf {
-        static final int NOBODY = -1;
-
-        int person;
-        SheetRow row;
-
-        Shelf() {
-            person = NOBODY;
-        }
-
-        void hold(int newPerson, SheetRow newRow) {
-            person = newPerson;
-            row = newRow;
         }
     }
 

@@ -125,6 +125,14 @@ public final class PromisesTest {
         told("citizen need;", -112);
         told("citizen need x;", -113);
         told("citizen need 5", -114);
+        told("citizen need wife;", -113);
+        told("citizen saved wife;", -114);
+        told("citizen voice wife;", -114);
+        told("citizen need 5 wife;", -115);
+        told("loud wife;", -105);
+        told("loud 5 wife;", -107);
+        told("pair wife;", -105);
+        told("xitizen;", -100);
         told("citizen need -1;", -113);
         told("citizen need 100;", -113);
         told("citizen need 0099;", -113);
@@ -150,6 +158,9 @@ public final class PromisesTest {
         told("citizen;wife;pair 0000 with 1;", -118);
         told("citizen;wife;pair 0 with 0001;", -125);
         told("citizen;wife;pair 0 and 1;", -120);
+        told("citizen;wife;pair 0 wife;", -120);
+        told("citizen;wife;pair 0 with wife;", -125);
+        told("citizen;wife;pair 0 with 1 wife;", -127);
         told("citizen;wife;pair 0 1;", -120);
         told("citizen;wife;pair 0 with 1", -126);
         told("citizen;wife;pair 0 with", -124);
@@ -200,7 +211,13 @@ public final class PromisesTest {
         due("day behind a fault", x.state(0), 3);
         due("law behind a fault", x.lawOf(LOUD), 9);
         due("tape behind a fault", x.many(5), 0);
+        x.seed(78);
         due("another town", Due.tell(x, "monk;"), 1);
+        due("need of all", x.state(3), 0);
+        due("saved of all", x.state(4), 0);
+        due("speakers", x.state(5), 1);
+        due("pairs", x.many(1), 0);
+        due("full ones", x.many(3), 0);
         due("no rows", x.many(4), 0);
         due("day anew", x.state(0), 0);
         due("heard anew", x.state(1), 0);
@@ -210,7 +227,7 @@ public final class PromisesTest {
         due("the trace stays", x.many(6), 2);
         due("the sheet stays", x.item(1, 2, 2), 0);
         due("nobody on the shelf", x.taken(0, 0), -11);
-        due("z stays", x.seed(1), 77);
+        due("z stays", x.seed(1), 78);
         due("what is kept stays", x.again(), 2);
         due("somebody on the shelf", x.taken(0, 0), 1);
     }
@@ -303,6 +320,10 @@ public final class PromisesTest {
         due("a prior's tenth is cut", x.does(1, SAYS), 1000);
         due("a prior grows below 0", x.does(1, GROWS), 998);
         due("a prior saves", x.does(1, SAVES), 1030);
+        x.change(1, 2, 10);
+        due("a tenth", x.does(1, SAYS), 1001);
+        x.change(1, 2, 99);
+        due("a tenth", x.does(1, SAYS), 1009);
         for (int day = 0; day < 15; day++) {
             due("a child on day " + day, x.does(2, SAYS), day % 2 == 0 ? 1008 : 1001);
             due("a child on day " + day, x.does(2, SAVES), day % 7 == 0 ? 1001 : 1000);
@@ -442,6 +463,9 @@ public final class PromisesTest {
         x.days(1);
         due("0 at least, and a prior says by what it saved", x.of(1, NEED), 0);
         due("heard", x.state(1), 18);
+        x.leave(1);
+        x.days(1);
+        due("0 at least", x.of(1, NEED), 0);
     }
 
     private static void held14() {
@@ -477,14 +501,16 @@ public final class PromisesTest {
         due("a day of nobody", x.day(), 0);
         due("draws nothing", x.seed(0), 0);
         due("but is a day", x.state(0), 1);
-        x.person(CITIZEN, 10, 0, 3);
-        x.person(CITIZEN, 10, 0, 2);
         x.set(LOT, 0);
         int z = 12345 * 1103515245 + 12345;
+        x.person(CITIZEN, 13, 0, 3);
+        due("a day of one", x.day(), 3);
+        due("draws all the same", x.seed(0), z);
+        x.person(CITIZEN, 10, 0, 2);
         due("a day", x.day(), 5);
         due("two draws without a lot", x.seed(0), z);
-        due("two days", x.state(0), 2);
-        due("heard", x.state(1), 5);
+        due("days", x.state(0), 3);
+        due("heard", x.state(1), 8);
     }
 
     private static int seedFor(int one, int other, int count) {
@@ -509,9 +535,10 @@ public final class PromisesTest {
         due("1 speaks twice", x.day(), 8 + 7);
         due("partners", x.of(1, PARTNER), 1);
         due("held its tongue", x.of(1, SPEAKS), 0);
-        x.seed(seedFor(1, 2, 3));
+        x.seed(seedFor(2, 1, 3));
         x.set(LOT, 49);
         due("49 is not below 49", x.day(), 2 + 7);
+        due("so they are partners still", x.of(1, PARTNER), 1);
         x.set(LOT, 50);
         x.seed(seedFor(1, 1, 3));
         due("with itself: alone", x.day(), 1 + 4 + 7);
@@ -552,7 +579,10 @@ public final class PromisesTest {
         due("z stays", x.seed(7), 7);
         due("no day", x.state(0), 0);
         due("no pair", x.many(1), 0);
-        due("luck of the first", x.luck(1) <= 1 ? 1 : 0, 1);
+        x.seed(seedFor(0, 1, 2));
+        due("luck of one", x.luck(1), 1);
+        x.seed(seedFor(1, 1, 2));
+        due("no luck", x.luck(1), 0);
     }
 
     private static void state18() {
@@ -658,6 +688,7 @@ public final class PromisesTest {
         due("a child says 1 on odd days", x.kindFor(0, 2), CHILD);
         due("tried only", x.of(0, KIND), MONK);
         due("n 0", x.kindFor(0, 0), BAD);
+        due("n 20", x.kindFor(0, 20), CHILD);
         due("n 21", x.kindFor(0, 21), BAD);
         due("no such one", x.kindFor(1, 1), BAD);
         due("no such one", x.kindFor(-1, 1), BAD);
@@ -689,7 +720,10 @@ public final class PromisesTest {
         x.person(CITIZEN, 9, 0, 9);
         x.person(CITIZEN, 9, 0, 0);
         x.person(CITIZEN, 9, 0, 0);
+        due("the least partner", x.bestOf(1, 0), 2);
         due("best 1", x.best(1), 18);
+        due("best 5", x.best(5), 18);
+        due("of 5", x.bestOf(5, 2), 0);
         due("the least partner", x.bestOf(1, 0), 2);
         due("its partner", x.bestOf(1, 1), 1);
         due("alone", x.bestOf(1, 2), 0);
@@ -887,6 +921,11 @@ public final class PromisesTest {
         due("outside", x.minds(0, MOST, 0, 1), -12);
         due("not so many", x.minds(0, 3, 0, 2), -12);
         all("needs", needs(x), 7, 99, 99);
+        x.sheet(0, 0, 8);
+        Due.tell(x, "wife;wife;wife;wife;wife;wife;wife;wife need 5;");
+        due("all eight", x.minds(0, 0, 0, 8), 8);
+        due("the last", x.of(7, NEED), 0);
+        due("beyond the last", x.minds(0, 0, 0, 9), BAD);
     }
 
     private static void sheets36to38() {
@@ -1035,6 +1074,10 @@ public final class PromisesTest {
         acted("prior by 0", actor(PRIOR, 2), 3, -15, 31, 13, 41, 11, 40, 30, 10, 40, 30, 10, 12);
         acted("hawker by 0", actor(HAWKER, 2), 2, -15, 50, 12);
         acted("child by 0", actor(CHILD, 2), 2, -15, 61, 12);
+        acted("monk by 1", actor(MONK, 3), 3, (-41 ^ 60) + 2, 31, 13, 11, 30, 10, 12);
+        HeldTongues again = actor(MONK, 2);
+        acted("monk by 0", again, 2, -15, 12);
+        acted("behind that", again, 0, -22, 30, 10);
         acted("child shouts", actor(CHILD, 2), 3, 9 - (46 ^ 60), 60, 13, 11, 10);
         HeldTongues x = actor(CITIZEN, 1);
         due("cut towards 0", x.act(0, 2, 7), -7);
