@@ -15,6 +15,10 @@ final class Due {
         due(what, holds ? 1 : 0, 1);
     }
 
+    int asked() {
+        return asked;
+    }
+
     /** The answer of town() to a text. */
     static int tell(HeldTongues x, String text) {
         feedAll(x, text);

@@ -13,6 +13,8 @@ import java.util.Random;
 public final class ModelTest {
     private static final int RUNS = 1500;
     private static final int CALLS = 512;
+    /** feed() 25 times, town(), and what sameTown() asks. */
+    private static final int CALLS_OF_A_TEXT = 92;
     private static final int MOST_SHOWN = 10;
     private static final int[] ODD = {-1, -2, 4, 5, 6, 7, 8, 9, 10, 20, 21, 40, 41, 60, 61, 99, 100, 128, 255,
         Integer.MAX_VALUE, Integer.MIN_VALUE};
@@ -91,10 +93,9 @@ public final class ModelTest {
 
     private boolean run() throws ReflectiveOperationException {
         boolean right = settle();
-        for (int i = calls.size(); i < CALLS && right; i++) {
-            if (random.nextInt(60) == 0) {
+        while (calls.size() < CALLS && right) {
+            if (random.nextInt(60) == 0 && calls.size() + CALLS_OF_A_TEXT <= CALLS) {
                 right = feedAndTown();
-                i += 60;
             } else {
                 right = drawnCall();
             }
@@ -181,7 +182,7 @@ public final class ModelTest {
 
     private boolean texts() throws ReflectiveOperationException {
         boolean right = true;
-        for (int i = 0; i < 6 && right; i++) {
+        while (calls.size() + CALLS_OF_A_TEXT <= CALLS && right) {
             right = feedAndTown();
         }
         return right;
