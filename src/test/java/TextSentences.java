@@ -189,6 +189,7 @@ final class TextSentences extends Asking {
         told("monk voice 009;", 1);
         told("monk;wife;pair 000 with 001;", 2);
         told("loud 009;lot 099;", 0);
+        told("monk need5saved6voice7;loud5;", 1);
         fault("monk need 0000;", 10);
         fault("monk voice 0009;", 11);
         fault("monk need;", 9);
